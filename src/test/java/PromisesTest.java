@@ -313,6 +313,7 @@ public final class PromisesTest {
         told(x, new int[] {6, 6, 3, 0}, 2, 2, 1, 1, 41);
         told(x, new int[] {8, 0, 4, 6}, 4, 3, 1, 1, 3122);
         told(x, new int[] {10}, 5, 0, -9, 16, 12113);
+        told(x, new int[] {8, 8, 9, 4, 2}, 5, 4, 4, 11, 31211);
         told(x, new int[] {5, 7, 7, 6, 5, 5}, 1, 1, 0, 4, 3);
         due.line(x, "c|");
         due.is("nothing is pressed", x.many(3), 1);
@@ -383,6 +384,8 @@ public final class PromisesTest {
         way(x, "cd", 2, 3);
         way(x, "ababc", 8, 2);
         way(x, "", new int[] {});
+        way(x, "a", 0);
+        way(x, "aa", 0, 0);
         way(x, "c", 2);
         way(x, "ba", 1, 0);
         due.part("11 fewest, from a line");
