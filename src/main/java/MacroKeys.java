@@ -17,6 +17,7 @@ public final class MacroKeys {
 
     private final Board board = new Board();
     private final Reader reader = new Reader();
+    private final Search search = new Search();
     private final Sheet[] sheets = {new Sheet(), new Sheet(), new Sheet(), new Sheet()};
     private final int[] readMacros = new int[MOST_READINGS];
     private final int[] readLetters = new int[MOST_READINGS];
@@ -25,7 +26,6 @@ public final class MacroKeys {
     private int pressed;
     private int traced;
     private int latestFault = NO_FAULT;
-    private Search search;
 
     public MacroKeys() {
     }
@@ -192,12 +192,11 @@ public final class MacroKeys {
         if (!from.allWithin(i, n, LETTERS - 1)) {
             return OUTSIDE;
         }
-        Search walk = searching();
-        int found = walk.find(line, 0, lineTold(from, i, n));
+        int found = search.find(board, line, 0, lineTold(from, i, n));
         if (found == NONE) {
             return NONE;
         }
-        return k == -1 ? walk.stepsTo(found) : walk.keyTo(found, k);
+        return k == -1 ? search.stepsTo(found) : search.keyTo(found, k);
     }
 
     private static int lineTold(Sheet from, int i, int n) {
@@ -215,8 +214,7 @@ public final class MacroKeys {
         if (what != 0 && what != 1) {
             return OUTSIDE;
         }
-        Search walk = searching();
-        return what == 0 ? walk.aheadOfRound(line, m) : walk.round(line, m);
+        return what == 0 ? search.aheadOfRound(board, line, m) : search.round(board, line, m);
     }
 
     public int like(int key, int other) {
@@ -246,15 +244,7 @@ public final class MacroKeys {
     }
 
     public int come() {
-        return searching().reachable(line, FIRST_MACRO);
-    }
-
-    // Many objects never search, so its long rows are made only when one does.
-    private Search searching() {
-        if (search == null) {
-            search = new Search(board);
-        }
-        return search;
+        return search.reachable(board, line, FIRST_MACRO);
     }
 
     // ---- 4 how long a line was
@@ -705,7 +695,7 @@ public final class MacroKeys {
         int many;
         private final Macro[] macros = {new Macro(), new Macro(), new Macro()};
         /** By macro and line, 1 above the effect; 0: it is not known. */
-        private int[] effects;
+        private final int[] effects = new int[MOST_MACROS * Line.LINES];
 
         void become(Reader reader) {
             many = reader.many;
@@ -739,7 +729,7 @@ public final class MacroKeys {
 
         // Only the macros behind one can play it, so what those ahead of it do stays known.
         private void forget(int m) {
-            if (effects != null && m >= 0 && m < MOST_MACROS) {
+            if (m >= 0 && m < MOST_MACROS) {
                 Arrays.fill(effects, m * Line.LINES, MOST_MACROS * Line.LINES, 0);
             }
         }
@@ -783,9 +773,6 @@ public final class MacroKeys {
             if (macro == null || line < 0 || line >= Line.LINES) {
                 return line;
             }
-            if (effects == null) {
-                effects = new int[MOST_MACROS * Line.LINES];
-            }
             int slot = m * Line.LINES + line;
             if (effects[slot] == 0) {
                 effects[slot] = 1 + played(line, macro, m);
@@ -812,22 +799,20 @@ public final class MacroKeys {
         }
     }
 
-    /** Goes from line to line; its rows, as long as there are lines, are used again and again. */
+    /**
+     * Goes from line to line. Its rows, as long as there are lines, are made with the object and
+     * used again by every call: made by a call, they would count once for each.
+     */
     private static final class Search {
         private static final int START = -1, KEY_BITS = 4;
 
-        private final Board board;
         private final int[] queue = new int[Line.LINES];
         /** By line: 0, it was not come to; START; or 1 above the line and the key it came by. */
         private final int[] cameBy = new int[Line.LINES];
         private int reached;
 
-        Search(Board board) {
-            this.board = board;
-        }
-
-        int reachable(int start, int firstKey) {
-            find(start, firstKey, NONE);
+        int reachable(Board board, int start, int firstKey) {
+            find(board, start, firstKey, NONE);
             return reached;
         }
 
@@ -836,7 +821,7 @@ public final class MacroKeys {
          * firstKey on. Lines are queued in the order of the first of their fewest rows of keys,
          * so the first that has the letters is come to by the first of all fewest rows.
          */
-        int find(int start, int firstKey, int goal) {
+        int find(Board board, int start, int firstKey, int goal) {
             Arrays.fill(cameBy, 0);
             reached = 0;
             queueUp(start, START);
@@ -893,18 +878,18 @@ public final class MacroKeys {
             return NONE;
         }
 
-        int aheadOfRound(int start, int m) {
-            int comesAgain = playOn(start, m);
+        int aheadOfRound(Board board, int start, int m) {
+            int comesAgain = playOn(board, start, m);
             return cameBy[comesAgain] - 1;
         }
 
-        int round(int start, int m) {
-            int comesAgain = playOn(start, m);
+        int round(Board board, int start, int m) {
+            int comesAgain = playOn(board, start, m);
             return reached + 1 - cameBy[comesAgain];
         }
 
         /** Plays until a line comes again: that line; by line, 1 above how many plays came to it. */
-        private int playOn(int start, int m) {
+        private int playOn(Board board, int start, int m) {
             Arrays.fill(cameBy, 0);
             reached = 0;
             int at = start;
