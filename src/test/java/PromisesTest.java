@@ -1,6 +1,6 @@
 /** The promises of the document, one by one: ordinary inputs, the edges it names, wrong inputs. */
 public final class PromisesTest {
-    private static final int MIN = Integer.MIN_VALUE, MAX = Integer.MAX_VALUE;
+    private static final int MIN = Due.MIN, MAX = Due.MAX;
     private static final String THREE = "k;p2ab;b1x0;e1<1h";
     private static final Due due = new Due();
 
@@ -109,23 +109,18 @@ public final class PromisesTest {
             due.is("no lane", x.macros(0, lane, -1, -1), -2);
             due.is("no lane, nothing there", x.macros(1, lane, 0, 0), -2);
         }
-        fails(x, "another lane, ahead of size", x.macros(0, 0, 0, -1), 2);
-        fails(x, "nothing is no cast", x.macros(1, 0, 0, -1), 1);
-        fails(x, "size, ahead of index", x.macros(0, 1, -1, -1), 4);
-        fails(x, "size", x.macros(0, 1, 0, MIN), 4);
-        fails(x, "too many", x.macros(0, 1, 0, 6), 3);
-        fails(x, "too many from 1 on", x.macros(0, 1, 1, 5), 3);
-        fails(x, "none from 6 on", x.macros(0, 1, 6, 0), 3);
-        fails(x, "none from -1 on", x.macros(0, 1, -1, 0), 3);
-        fails(x, "wide", x.macros(0, 1, MAX, MAX), 3);
-        fails(x, "wide n", x.macros(0, 1, 0, MAX), 3);
+        due.fails(x, "another lane, ahead of size", x.macros(0, 0, 0, -1), 2);
+        due.fails(x, "nothing is no cast", x.macros(1, 0, 0, -1), 1);
+        due.fails(x, "size, ahead of index", x.macros(0, 1, -1, -1), 4);
+        due.fails(x, "size", x.macros(0, 1, 0, MIN), 4);
+        due.fails(x, "too many", x.macros(0, 1, 0, 6), 3);
+        due.fails(x, "too many from 1 on", x.macros(0, 1, 1, 5), 3);
+        due.fails(x, "none from 6 on", x.macros(0, 1, 6, 0), 3);
+        due.fails(x, "none from -1 on", x.macros(0, 1, -1, 0), 3);
+        due.fails(x, "wide", x.macros(0, 1, MAX, MAX), 3);
+        due.fails(x, "wide n", x.macros(0, 1, 0, MAX), 3);
         due.is("taken", x.macros(0, 1, 0, 5), 1);
         due.is("its fault", x.fault(), 0);
-    }
-
-    private static void fails(MacroKeys x, String call, int got, int fault) {
-        due.is(call, got, -10 - fault);
-        due.is(call + ", fault()", x.fault(), fault);
     }
 
     private static void macrosMakeAnew() {
@@ -357,12 +352,12 @@ public final class PromisesTest {
         }
         due.is("lane", x.row(0, 3, 0, 1, 0), -2);
         due.is("lane", x.row(0, -1, 0, 1, 0), -2);
-        fails(x, "cast, ahead of index", x.row(0, 2, -1, 1, 0), 2);
-        fails(x, "nothing", x.row(2, 1, -1, 1, 0), 1);
-        fails(x, "index", x.row(0, 1, 1, 3, 0), 3);
-        fails(x, "index", x.row(0, 1, -1, 1, 0), 3);
-        fails(x, "index of none", x.row(0, 1, 4, 0, 0), 3);
-        fails(x, "index", x.row(0, 1, MAX, 20, 0), 3);
+        due.fails(x, "cast, ahead of index", x.row(0, 2, -1, 1, 0), 2);
+        due.fails(x, "nothing", x.row(2, 1, -1, 1, 0), 1);
+        due.fails(x, "index", x.row(0, 1, 1, 3, 0), 3);
+        due.fails(x, "index", x.row(0, 1, -1, 1, 0), 3);
+        due.fails(x, "index of none", x.row(0, 1, 4, 0, 0), 3);
+        due.fails(x, "index", x.row(0, 1, MAX, 20, 0), 3);
         Due.row(x, 0, 1, 10, 11, 9);
         due.is("outside is ahead of unknown", x.row(0, 1, 0, 2, 0), -2);
         due.is("unknown", x.row(0, 1, 0, 1, 0), -1);
@@ -438,11 +433,11 @@ public final class PromisesTest {
             due.is("k", x.fewest(0, 0, 0, 1, k), -2);
             due.is("k, nothing there", x.fewest(1, 0, 0, 1, k), -2);
         }
-        fails(x, "cast", x.fewest(0, 1, 9, 1, 0), 2);
-        fails(x, "null", x.fewest(1, 1, 9, 1, 0), 1);
-        fails(x, "index", x.fewest(0, 0, 5, 2, 0), 3);
-        fails(x, "index of none", x.fewest(0, 0, 7, 0, 0), 3);
-        fails(x, "index", x.fewest(0, 0, MAX, 5, 0), 3);
+        due.fails(x, "cast", x.fewest(0, 1, 9, 1, 0), 2);
+        due.fails(x, "null", x.fewest(1, 1, 9, 1, 0), 1);
+        due.fails(x, "index", x.fewest(0, 0, 5, 2, 0), 3);
+        due.fails(x, "index of none", x.fewest(0, 0, 7, 0, 0), 3);
+        due.fails(x, "index", x.fewest(0, 0, MAX, 5, 0), 3);
         due.is("a cell", x.fewest(0, 0, 2, 2, 0), -2);
         due.is("its fault", x.fault(), 0);
         x.put(0, 0, -1);
@@ -693,7 +688,7 @@ public final class PromisesTest {
             due.is("which", x.odds(0, bad), Long.MIN_VALUE);
         }
         x.put(9, 0, 0);
-        fails(x, "a fault", x.put(0, 0, 0), 1);
+        due.fails(x, "a fault", x.put(0, 0, 0), 1);
         x.odds(9, 9);
         due.is("it names no faults", x.fault(), 1);
     }
@@ -720,8 +715,8 @@ public final class PromisesTest {
         due.is("no fault", x.fault(), 0);
         due.is("above 60", x.sheet(0, 0, 61), -2);
         due.is("above 60", x.sheet(0, 0, MAX), -2);
-        fails(x, "below 0", x.sheet(0, 0, -1), 4);
-        fails(x, "below 0", x.sheet(0, 0, MIN), 4);
+        due.fails(x, "below 0", x.sheet(0, 0, -1), 4);
+        due.fails(x, "below 0", x.sheet(0, 0, MIN), 4);
         due.is("as before", x.cell(0, 2, 1), 0);
     }
 
@@ -732,7 +727,7 @@ public final class PromisesTest {
         x.sheet(0, 0, 0);
         due.is("a row of none", x.lose(0), 1);
         due.is("nothing", x.lose(0), 0);
-        fails(x, "it has nothing", x.put(0, 0, 1), 1);
+        due.fails(x, "it has nothing", x.put(0, 0, 1), 1);
         due.is("unknown", x.lose(4), -1);
         due.is("unknown", x.lose(-1), -1);
         x.lose(1);
@@ -753,11 +748,11 @@ public final class PromisesTest {
         }
         due.is("unknown", x.put(4, 0, 0), -1);
         due.is("unknown", x.put(-1, 0, 0), -1);
-        fails(x, "null, ahead of index", x.put(3, -1, 0), 1);
-        fails(x, "index", x.put(0, -1, 0), 3);
-        fails(x, "index", x.put(0, 10, 0), 3);
-        fails(x, "index", x.put(0, MAX, 0), 3);
-        fails(x, "index", x.put(0, MIN, 0), 3);
+        due.fails(x, "null, ahead of index", x.put(3, -1, 0), 1);
+        due.fails(x, "index", x.put(0, -1, 0), 3);
+        due.fails(x, "index", x.put(0, 10, 0), 3);
+        due.fails(x, "index", x.put(0, MAX, 0), 3);
+        due.fails(x, "index", x.put(0, MIN, 0), 3);
         due.is("put", x.put(0, 0, 0), 1);
         due.is("no fault", x.fault(), 0);
     }
@@ -767,22 +762,17 @@ public final class PromisesTest {
         MacroKeys x = new MacroKeys();
         Due.row(x, 0, 1, 5, -6);
         due.is("cell", x.cell(0, 1, 1), -6);
-        loses(x, "unknown", x.cell(4, 0, 9), 0);
-        loses(x, "unknown", x.cell(-1, 0, 1), 0);
-        loses(x, "lane", x.cell(0, 0, 3), 0);
-        loses(x, "lane, nothing there", x.cell(1, 0, -1), 0);
-        loses(x, "cast, ahead of index", x.cell(0, 9, 2), 2);
-        loses(x, "nothing is no cast", x.cell(1, 9, 0), 1);
-        loses(x, "index", x.cell(0, 2, 1), 3);
-        loses(x, "index", x.cell(0, -1, 1), 3);
-        loses(x, "index", x.cell(0, MAX, 1), 3);
+        due.loses(x, "unknown", x.cell(4, 0, 9), 0);
+        due.loses(x, "unknown", x.cell(-1, 0, 1), 0);
+        due.loses(x, "lane", x.cell(0, 0, 3), 0);
+        due.loses(x, "lane, nothing there", x.cell(1, 0, -1), 0);
+        due.loses(x, "cast, ahead of index", x.cell(0, 9, 2), 2);
+        due.loses(x, "nothing is no cast", x.cell(1, 9, 0), 1);
+        due.loses(x, "index", x.cell(0, 2, 1), 3);
+        due.loses(x, "index", x.cell(0, -1, 1), 3);
+        due.loses(x, "index", x.cell(0, MAX, 1), 3);
         due.is("cell", x.cell(0, 0, 1), 5);
         due.is("no fault", x.fault(), 0);
-    }
-
-    private static void loses(MacroKeys x, String call, long got, int fault) {
-        due.is(call, got, Long.MIN_VALUE);
-        due.is(call + ", fault()", x.fault(), fault);
     }
 
     private static void copy() {
@@ -802,19 +792,19 @@ public final class PromisesTest {
         due.is("unknown", x.copy(4, 0, 0, 0, 0), -1);
         due.is("unknown", x.copy(0, 0, -1, 0, 0), -1);
         due.is("unknown, ahead of null", x.copy(3, 0, 4, 0, 0), -1);
-        fails(x, "null, the first", x.copy(3, 9, 0, 0, 1), 1);
-        fails(x, "null, the other", x.copy(0, 9, 3, 0, 1), 1);
-        fails(x, "cast, ahead of index", x.copy(0, 9, 2, 0, 1), 2);
-        fails(x, "i", x.copy(0, -1, 1, 0, 1), 3);
-        fails(x, "i", x.copy(0, 4, 1, 0, 2), 3);
-        fails(x, "i of none", x.copy(0, 6, 1, 0, 0), 3);
-        fails(x, "j", x.copy(0, 0, 1, -1, 1), 3);
-        fails(x, "j", x.copy(0, 0, 1, 2, 2), 3);
-        fails(x, "j of none", x.copy(0, 0, 1, 4, 0), 3);
-        fails(x, "n", x.copy(0, 0, 1, 0, -1), 3);
-        fails(x, "n", x.copy(0, 0, 1, 0, MIN), 3);
-        fails(x, "n", x.copy(0, 0, 1, 0, MAX), 3);
-        fails(x, "wide", x.copy(0, MAX, 1, MAX, MAX), 3);
+        due.fails(x, "null, the first", x.copy(3, 9, 0, 0, 1), 1);
+        due.fails(x, "null, the other", x.copy(0, 9, 3, 0, 1), 1);
+        due.fails(x, "cast, ahead of index", x.copy(0, 9, 2, 0, 1), 2);
+        due.fails(x, "i", x.copy(0, -1, 1, 0, 1), 3);
+        due.fails(x, "i", x.copy(0, 4, 1, 0, 2), 3);
+        due.fails(x, "i of none", x.copy(0, 6, 1, 0, 0), 3);
+        due.fails(x, "j", x.copy(0, 0, 1, -1, 1), 3);
+        due.fails(x, "j", x.copy(0, 0, 1, 2, 2), 3);
+        due.fails(x, "j of none", x.copy(0, 0, 1, 4, 0), 3);
+        due.fails(x, "n", x.copy(0, 0, 1, 0, -1), 3);
+        due.fails(x, "n", x.copy(0, 0, 1, 0, MIN), 3);
+        due.fails(x, "n", x.copy(0, 0, 1, 0, MAX), 3);
+        due.fails(x, "wide", x.copy(0, MAX, 1, MAX, MAX), 3);
         cells(x, 1, 2, 2, 3, 9);
     }
 
