@@ -73,10 +73,11 @@ public final class MacroKeys {
 
     public int key(int m, int i) {
         Macro macro = board.macroOf(m);
-        if (macro == null || i < 0 || i >= macro.count) {
+        if (macro == null) {
             return UNKNOWN;
         }
-        return macro.keys[i];
+        int key = macro.keyAt(i);
+        return key == NONE ? UNKNOWN : key;
     }
 
     public int times(int m, int v) {
@@ -508,7 +509,14 @@ public final class MacroKeys {
         /** The first number of the lines of so many letters. */
         private static final int[] FIRST = {0, 1, 9, 57, 313, 1593};
 
+        static boolean isLine(int line) {
+            return line >= 0 && line < LINES;
+        }
+
         static int of(int count, int cursor, int letters) {
+            if (count < 0 || count > MOST_LETTERS) {
+                return EMPTY;
+            }
             return FIRST[count] + (cursor << 2 * count) + letters;
         }
 
@@ -526,13 +534,9 @@ public final class MacroKeys {
             return line - FIRST[count] >> 2 * count;
         }
 
-        static int lettersOf(int line) {
-            int count = countOf(line);
-            return line - FIRST[count] & (1 << 2 * count) - 1;
-        }
-
         static int letterAt(int line, int place) {
-            return lettersOf(line) >> 2 * (countOf(line) - 1 - place) & LETTERS - 1;
+            int count = countOf(line);
+            return line - FIRST[count] >> 2 * (count - 1 - place) & LETTERS - 1;
         }
 
         static int digitsOf(int line) {
@@ -586,6 +590,10 @@ public final class MacroKeys {
                 case BROAD: return timing + 1;
                 default: return timing;
             }
+        }
+
+        int keyAt(int i) {
+            return i < 0 || i >= count || i >= MOST_ON_MACRO ? NONE : keys[i];
         }
 
         void become(Macro other) {
@@ -741,7 +749,7 @@ public final class MacroKeys {
             }
             int once = 0;
             for (int j = 0; j < macro.count; j++) {
-                int key = macro.keys[j];
+                int key = macro.keyAt(j);
                 if (key < FIRST_MACRO) {
                     once++;
                 } else if (key - FIRST_MACRO < m) {
@@ -770,7 +778,7 @@ public final class MacroKeys {
             }
             int m = key - FIRST_MACRO;
             Macro macro = macroOf(m);
-            if (macro == null || line < 0 || line >= Line.LINES) {
+            if (macro == null || !Line.isLine(line)) {
                 return line;
             }
             int slot = m * Line.LINES + line;
@@ -786,7 +794,7 @@ public final class MacroKeys {
             int often = macro.often();
             for (int r = 0; r < often; r++) {
                 for (int j = 0; j < macro.count; j++) {
-                    int key = macro.keys[j];
+                    int key = macro.keyAt(j);
                     // A macro plays only those ahead of it: by this the recursion ends.
                     if (key < FIRST_MACRO + m) {
                         int effect = effectOf(then, key);
@@ -832,7 +840,7 @@ public final class MacroKeys {
                 int from = queue[head];
                 for (int key = firstKey; key < board.keysThereAre(); key++) {
                     int next = board.lineAfter(from, key);
-                    if (cameBy[next] != 0) {
+                    if (!Line.isLine(next) || cameBy[next] != 0) {
                         continue;
                     }
                     queueUp(next, 1 + (from << KEY_BITS | key));
@@ -845,7 +853,7 @@ public final class MacroKeys {
         }
 
         private void queueUp(int line, int by) {
-            if (reached < Line.LINES) {
+            if (reached < Line.LINES && Line.isLine(line)) {
                 cameBy[line] = by;
                 queue[reached] = line;
                 reached++;
@@ -859,7 +867,7 @@ public final class MacroKeys {
         int stepsTo(int found) {
             int steps = 0;
             int at = found;
-            while (cameBy[at] > 0 && steps < Line.LINES) {
+            while (Line.isLine(at) && cameBy[at] > 0 && steps < Line.LINES) {
                 at = cameBy[at] - 1 >> KEY_BITS;
                 steps++;
             }
@@ -868,7 +876,7 @@ public final class MacroKeys {
 
         int keyTo(int found, int place) {
             int at = found;
-            for (int p = stepsTo(found) - 1; p >= 0; p--) {
+            for (int p = stepsTo(found) - 1; p >= 0 && Line.isLine(at); p--) {
                 int by = cameBy[at] - 1;
                 if (p == place) {
                     return by & (1 << KEY_BITS) - 1;
@@ -879,13 +887,16 @@ public final class MacroKeys {
         }
 
         int aheadOfRound(Board board, int start, int m) {
-            int comesAgain = playOn(board, start, m);
-            return cameBy[comesAgain] - 1;
+            return playsTo(playOn(board, start, m));
         }
 
         int round(Board board, int start, int m) {
             int comesAgain = playOn(board, start, m);
-            return reached + 1 - cameBy[comesAgain];
+            return reached - playsTo(comesAgain);
+        }
+
+        private int playsTo(int line) {
+            return Line.isLine(line) ? cameBy[line] - 1 : 0;
         }
 
         /** Plays until a line comes again: that line; by line, 1 above how many plays came to it. */
@@ -893,7 +904,7 @@ public final class MacroKeys {
             Arrays.fill(cameBy, 0);
             reached = 0;
             int at = start;
-            while (cameBy[at] == 0 && reached < Line.LINES) {
+            while (Line.isLine(at) && cameBy[at] == 0 && reached < Line.LINES) {
                 reached++;
                 cameBy[at] = reached;
                 at = board.lineAfter(at, FIRST_MACRO + m);

@@ -16,7 +16,9 @@ import java.util.regex.Pattern;
  * alone (lines as texts, rows of objects, kinds as classes); all answers must be the same.
  */
 public final class ModelTest {
-    private static final int RUNS = 250, CALLS = 400;
+    /** An object is used for at most so many calls, those that look at it counted. */
+    private static final int CALLS = 512;
+    private static final int RUNS = 600, LOOKS = 13;
     private static final String[] CALL_NAMES = {"macros", "ofMacro", "key", "times", "press", "play", "letter",
         "clear", "row", "fewest", "again", "like", "still", "come", "reading", "back", "timings", "kinds", "odds",
         "sheet", "lose", "put", "cell", "copy", "tell", "click", "as", "trace", "fault", "many"};
@@ -40,6 +42,7 @@ public final class ModelTest {
         final Model model = new Model();
         final List<String> said = new ArrayList<>();
         int calls;
+        boolean ended;
         boolean failed;
 
         Run(int number) {
@@ -51,7 +54,7 @@ public final class ModelTest {
             if (number % 8 != 0) {
                 text();
             }
-            while (calls < CALLS && !failed) {
+            while (!ended && !failed) {
                 switch (random.nextInt(14)) {
                     case 0: if (random.nextInt(6) == 0) text(); break;
                     case 1: rowOf(11); break;
@@ -169,12 +172,25 @@ public final class ModelTest {
         }
 
         long call(int which, int... args) {
+            // Behind the last call there is room for one whole look.
+            ended |= calls + 1 + LOOKS + LOOKS > CALLS;
+            if (ended) {
+                return 0;
+            }
             int[] a = Arrays.copyOf(args, 5);
             calls++;
             long got = answer(real, which, a);
             long want = answer(model, which, a);
             said.add(CALL_NAMES[which] + Arrays.toString(a) + " " + got);
             same("", got, want);
+            if (random.nextInt(6) == 0 || calls + 1 + LOOKS + LOOKS > CALLS) {
+                look();
+            }
+            return want;
+        }
+
+        void look() {
+            calls += LOOKS;
             same("fault", real.fault(), model.fault());
             same("trace", real.trace(), model.trace());
             for (int what = 0; what < 5; what++) {
@@ -183,7 +199,6 @@ public final class ModelTest {
             for (int i = 0; i < 5; i++) {
                 same("letter " + i, real.letter(i), model.letter(i));
             }
-            return want;
         }
 
         void same(String what, long got, long want) {

@@ -83,6 +83,7 @@ public final class PromisesTest {
             13, 13, 16, 12, 5, 5,
             6, 8, 4};
         for (int t = 0; t < bad.length; t++) {
+            x = Due.with("k;p1a;p1b;p1c");
             due.is(bad[t], Due.text(x, bad[t]), -100 - places[t]);
             due.is("no machine's fault", x.fault(), 0);
             due.is("as before", x.many(0), 3);
