@@ -24,6 +24,9 @@ public final class FaceTest {
     private static final String[] CONSTANTS = {"UNKNOWN", "OUTSIDE", "STATE", "FULL", "NONE", "LOST"};
     private static final String[] RULED_OUT = {"throw", "throws", "try", "catch", "synchronized", "assert", "->",
         "::", "Object", "String", "System.out", "protected", "float", "double", "hashCode", "equals", "toString"};
+    private static final Path SOURCE = Path.of("src/main/java/MacroKeys.java");
+    private static final Path DOCUMENT = Path.of("../shared/DOC.md");
+    private static final int CONSTANT_LINES = 2;
     private static int wrong;
 
     public static void main(String[] args) throws IOException {
@@ -31,6 +34,8 @@ public final class FaceTest {
         constants();
         nestedClasses();
         words();
+        documentsFace();
+        headings();
         System.out.println(wrong == 0 ? "the face is as due" : wrong + " parts of the face are not as due");
         if (wrong != 0) {
             System.exit(1);
@@ -92,11 +97,52 @@ public final class FaceTest {
                 int is = field.getModifiers();
                 due(!Modifier.isStatic(is) || Modifier.isFinal(is), field + " is final");
             }
+            for (Method method : each.getDeclaredMethods()) {
+                due(Arrays.stream(FACE).noneMatch(call -> call.contains(" " + method.getName() + "(")),
+                        method + " bears no name of the face");
+                due(method.getParameterCount() <= 7, method + " takes at most seven parameters");
+            }
         }
     }
 
+    /** Each line of the face that the document tells stands in the class, parameters' names and all. */
+    private static void documentsFace() throws IOException {
+        String document = Files.readString(DOCUMENT);
+        int begin = document.indexOf("```java\n") + "```java\n".length();
+        String[] face = document.substring(begin, document.indexOf("```", begin)).split("\n");
+        due(face.length == CONSTANT_LINES + FACE.length + 3, "the face has so many lines: " + face.length);
+        String source = Files.readString(SOURCE);
+        int from = 0;
+        for (String line : face) {
+            int at = source.indexOf(line.replaceAll("\\);$", ") {"), from);
+            due(at >= 0, "in the document's order: " + line);
+            from = Math.max(at, from);
+        }
+    }
+
+    /** The headings that the interface has ahead of its calls: each call stands below its own. */
+    private static void headings() throws IOException {
+        String source = Files.readString(SOURCE);
+        Matcher told = Pattern.compile("(?m)^Ahead of the calls (.*) the interface says: (---- .*)\\.$")
+                .matcher(Files.readString(DOCUMENT));
+        int parts = 0;
+        int calls = 0;
+        while (told.find()) {
+            parts++;
+            int begin = source.indexOf("// " + told.group(2) + "\n");
+            int end = source.indexOf("// ----", begin + 1);
+            String part = begin < 0 ? "" : source.substring(begin, end < 0 ? source.length() : end);
+            for (String call : told.group(1).replace("`", "").split(", ")) {
+                calls++;
+                due(Pattern.compile("(?m)^    public \\w+ " + call + "\\(").matcher(part).find(),
+                        call + " below " + told.group(2));
+            }
+        }
+        due(parts == 5 && calls == FACE.length, "all calls have a heading: " + parts + ", " + calls);
+    }
+
     private static void words() throws IOException {
-        String source = Files.readString(Path.of("src/main/java/MacroKeys.java"));
+        String source = Files.readString(SOURCE);
         String code = source.replaceAll("(?s)/\\*.*?\\*/", "").replaceAll("//[^\n]*", "");
         for (String word : RULED_OUT) {
             String edge = Character.isLetter(word.charAt(0)) ? "\\b" : "";
